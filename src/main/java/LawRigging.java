@@ -4,6 +4,7 @@ public final class LawRigging {
 
     private static final int NOTHING = 1, BEYOND = 2, UNLIKE = 3, NOUGHT = 4, SIZE = 5;
     private static final int FINDINGS = 5;
+    private static final int FINE = 0;
     private static final int ROPE = 0, STAY = 1, SPLICE = 2, RUNNING = 3, TARRED = 4, WIDOW = 5;
     private static final int KINDS = 6;
     private static final int ROWS = 6, ROW_PLACES = 40;
@@ -40,14 +41,9 @@ public final class LawRigging {
     }
 
     public int lay(int r, int i, int v) {
-        if (!rows.isNumber(r)) {
-            return BAD;
-        }
-        if (!rows.isThere(r)) {
-            return found(NOTHING);
-        }
-        if (!rows.hasPlace(r, i)) {
-            return found(BEYOND);
+        int refusal = refusalOfPlace(rows, r, i);
+        if (refusal != FINE) {
+            return refusal;
         }
         int was = rows.get(r, i);
         rows.set(r, i, v);
@@ -55,24 +51,14 @@ public final class LawRigging {
     }
 
     public int at(int r, int i) {
-        if (!rows.isNumber(r)) {
-            return BAD;
-        }
-        if (!rows.isThere(r)) {
-            return found(NOTHING);
-        }
-        if (!rows.hasPlace(r, i)) {
-            return found(BEYOND);
-        }
-        return tell(rows.get(r, i));
+        int refusal = refusalOfPlace(rows, r, i);
+        return refusal != FINE ? refusal : tell(rows.get(r, i));
     }
 
     public int tear(int r) {
-        if (!rows.isNumber(r)) {
-            return BAD;
-        }
-        if (!rows.isThere(r)) {
-            return found(NOTHING);
+        int refusal = refusalOfMissing(rows, r);
+        if (refusal != FINE) {
+            return refusal;
         }
         rows.drop(r);
         return 1;
@@ -96,11 +82,9 @@ public final class LawRigging {
     }
 
     public int mean(int r) {
-        if (!rows.isNumber(r)) {
-            return BAD;
-        }
-        if (!rows.isThere(r)) {
-            return found(NOTHING);
+        int refusal = refusalOfMissing(rows, r);
+        if (refusal != FINE) {
+            return refusal;
         }
         int size = rows.size(r);
         if (size <= 0) {
@@ -114,14 +98,9 @@ public final class LawRigging {
     }
 
     public int put(int t, int i, int v) {
-        if (!texts.isNumber(t)) {
-            return BAD;
-        }
-        if (!texts.isThere(t)) {
-            return found(NOTHING);
-        }
-        if (!texts.hasPlace(t, i)) {
-            return found(BEYOND);
+        int refusal = refusalOfPlace(texts, t, i);
+        if (refusal != FINE) {
+            return refusal;
         }
         int was = texts.get(t, i);
         texts.set(t, i, (byte) v);
@@ -129,21 +108,14 @@ public final class LawRigging {
     }
 
     public int fault(int t) {
-        if (!texts.isNumber(t)) {
-            return BAD;
-        }
-        if (!texts.isThere(t)) {
-            return found(NOTHING);
-        }
-        return reader.read(texts, t, draft);
+        int refusal = refusalOfMissing(texts, t);
+        return refusal != FINE ? refusal : reader.read(texts, t, draft);
     }
 
     public int court(int t) {
-        if (!texts.isNumber(t)) {
-            return BAD;
-        }
-        if (!texts.isThere(t)) {
-            return found(NOTHING);
+        int refusal = refusalOfMissing(texts, t);
+        if (refusal != FINE) {
+            return refusal;
         }
         if (reader.read(texts, t, draft) != NONE) {
             return STATE;
@@ -187,34 +159,22 @@ public final class LawRigging {
     // ---- 2 deeds
 
     public int haul(int i, int n) {
-        if (!rig.isRope(i) || n < 1 || n > 9) {
-            return BAD;
+        int refusal = refusalOfHaul(i, n);
+        if (refusal != FINE) {
+            return refusal;
         }
         long before = log.now();
-        if (!State.isFast(before, i)) {
-            return STATE;
-        }
-        if (log.isFull(1)) {
-            return FULL;
-        }
         long after = rig.hauled(before, i, n);
-        log.add(after);
-        return Integer.bitCount(State.parted(after) & ~State.parted(before));
+        return done(after, firstParted(before, after) == NONE ? 0 : 1);
     }
 
     public int slack(int i) {
-        if (!rig.isRope(i)) {
-            return BAD;
+        int refusal = refusalOfFast(i);
+        if (refusal != FINE) {
+            return refusal;
         }
         long before = log.now();
-        if (!State.isFast(before, i)) {
-            return STATE;
-        }
-        if (log.isFull(1)) {
-            return FULL;
-        }
-        log.add(State.afterLetGo(before, i));
-        return State.strain(before, i);
+        return done(State.afterLetGo(before, i), State.strain(before, i));
     }
 
     public int belay(int i) {
@@ -225,11 +185,8 @@ public final class LawRigging {
         if (State.isParted(before, i) || !State.isLetGo(before, i)) {
             return STATE;
         }
-        if (log.isFull(1)) {
-            return FULL;
-        }
-        log.add(State.afterMadeOff(before, i));
-        return Integer.bitCount(State.letGo(log.now()));
+        long after = State.afterMadeOff(before, i);
+        return done(after, Integer.bitCount(State.letGo(after)));
     }
 
     public int cut(int i) {
@@ -240,11 +197,8 @@ public final class LawRigging {
         if (State.isParted(before, i)) {
             return STATE;
         }
-        if (log.isFull(1)) {
-            return FULL;
-        }
-        log.add(State.afterParted(before, 1 << i));
-        return Integer.bitCount(State.parted(log.now()));
+        long after = State.afterParted(before, 1 << i);
+        return done(after, Integer.bitCount(State.parted(after)));
     }
 
     public int splice(int i) {
@@ -255,25 +209,19 @@ public final class LawRigging {
         if (!State.isParted(before, i)) {
             return STATE;
         }
-        if (log.isFull(1)) {
-            return FULL;
-        }
-        log.add(State.afterSpliced(before, i));
-        return Integer.bitCount(State.parted(log.now()));
+        long after = State.afterSpliced(before, i);
+        return done(after, Integer.bitCount(State.parted(after)));
     }
 
     public int frost(int on) {
         if (on != 0 && on != 1) {
             return BAD;
         }
-        if (rig.isEmpty() || State.frost(log.now()) == on) {
+        long before = log.now();
+        if (rig.isEmpty() || State.frostIn(before) == on) {
             return STATE;
         }
-        if (log.isFull(1)) {
-            return FULL;
-        }
-        log.add(State.afterFrost(log.now(), on));
-        return on;
+        return done(State.afterFrost(before, on), on);
     }
 
     public int undo(int n) {
@@ -317,25 +265,21 @@ public final class LawRigging {
     }
 
     public int moves(int i, int n) {
-        if (!rig.isRope(i) || n < 1 || n > 9) {
-            return BAD;
+        int refusal = refusalOfHaul(i, n);
+        if (refusal != FINE) {
+            return refusal;
         }
         long now = log.now();
-        if (!State.isFast(now, i)) {
-            return STATE;
-        }
         tell(firstParted(now, rig.hauled(now, i, n)));
         return rig.reached;
     }
 
     public int parts(int i) {
-        if (!rig.isRope(i)) {
-            return BAD;
+        int refusal = refusalOfFast(i);
+        if (refusal != FINE) {
+            return refusal;
         }
         long now = log.now();
-        if (!State.isFast(now, i)) {
-            return STATE;
-        }
         for (int n = 1; n <= 20; n++) {
             int which = firstParted(now, rig.hauled(now, i, n));
             if (which != NONE) {
@@ -422,7 +366,7 @@ public final class LawRigging {
 
     public int who(int r) {
         int refusal = refusalOfPairs(r);
-        if (refusal != 0) {
+        if (refusal != FINE) {
             return refusal;
         }
         int kindsLeft = kindsThatFit(r);
@@ -437,12 +381,12 @@ public final class LawRigging {
 
     public int kinds(int r) {
         int refusal = refusalOfPairs(r);
-        return refusal != 0 ? refusal : kindsThatFit(r);
+        return refusal != FINE ? refusal : kindsThatFit(r);
     }
 
     public int test(int r) {
         int refusal = refusalOfPairs(r);
-        if (refusal != 0) {
+        if (refusal != FINE) {
             return refusal;
         }
         int kindsLeft = kindsThatFit(r);
@@ -535,7 +479,7 @@ public final class LawRigging {
             case 2:
                 return log.deeds();
             case 3:
-                return State.frost(now);
+                return State.frostIn(now);
             case 4:
                 return State.taut(now);
             case 5:
@@ -611,6 +555,41 @@ public final class LawRigging {
         return n;
     }
 
+    private int refusalOfMissing(Shelf shelf, int r) {
+        if (!shelf.isNumber(r)) {
+            return BAD;
+        }
+        return shelf.isThere(r) ? FINE : found(NOTHING);
+    }
+
+    private int refusalOfPlace(Shelf shelf, int r, int i) {
+        int refusal = refusalOfMissing(shelf, r);
+        if (refusal != FINE) {
+            return refusal;
+        }
+        return shelf.hasPlace(r, i) ? FINE : found(BEYOND);
+    }
+
+    private int refusalOfFast(int i) {
+        if (!rig.isRope(i)) {
+            return BAD;
+        }
+        return State.isFast(log.now(), i) ? FINE : STATE;
+    }
+
+    private int refusalOfHaul(int i, int n) {
+        return n < 1 || n > 9 ? BAD : refusalOfFast(i);
+    }
+
+    /** FULL comes last, so each DEED that is not refused otherwise goes through here. */
+    private int done(long after, int answer) {
+        if (log.isFull(1)) {
+            return FULL;
+        }
+        log.add(after);
+        return answer;
+    }
+
     private int detail(int i, int what) {
         long now = log.now();
         switch (what) {
@@ -653,13 +632,11 @@ public final class LawRigging {
         return best;
     }
 
-    /** What a ROW that is to be one of pairs is refused by; 0: by nothing. */
+    /** What a ROW that is to be one of pairs is refused by. */
     private int refusalOfPairs(int r) {
-        if (!rows.isNumber(r)) {
-            return BAD;
-        }
-        if (!rows.isThere(r)) {
-            return found(NOTHING);
+        int refusal = refusalOfMissing(rows, r);
+        if (refusal != FINE) {
+            return refusal;
         }
         int size = rows.size(r);
         if (size > MOST_PAIR_PLACES || size % 2 != 0) {
@@ -670,7 +647,7 @@ public final class LawRigging {
                 return found(UNLIKE);
             }
         }
-        return 0;
+        return FINE;
     }
 
     private int kindsThatFit(int r) {
@@ -778,9 +755,9 @@ public final class LawRigging {
         Shelf(int number, int most, int blank) {
             this.most = most;
             this.blank = blank;
-            places = new int[number][most];
-            sizes = new int[number];
-            for (int r = 0; r < number; r++) {
+            places = new int[Math.max(number, 0)][Math.max(most, 0)];
+            sizes = new int[places.length];
+            for (int r = 0; r < sizes.length; r++) {
                 sizes[r] = MISSING;
             }
         }
@@ -886,7 +863,7 @@ public final class LawRigging {
             return (int) (state >> PARTED_AT) & MOST_SET;
         }
 
-        static int frost(long state) {
+        static int frostIn(long state) {
             return (int) (state >> FROST_AT) & 1;
         }
 
@@ -1061,7 +1038,7 @@ public final class LawRigging {
         long hauled(long state, int first, int n) {
             long after = state;
             int i = first;
-            int strain = State.frost(state) != 0 && kind(first) != TARRED ? n + 1 : n;
+            int strain = State.frostIn(state) != 0 && kind(first) != TARRED ? n + 1 : n;
             reached = 0;
             for (int step = 0; step < MOST_ROPES && strain > 0 && canReach(after, i); step++) {
                 reached |= 1 << i;
@@ -1096,7 +1073,7 @@ public final class LawRigging {
                 case 6:
                     return State.isParted(state, i) ? State.afterSpliced(state, i) : state;
                 case 7:
-                    return State.afterFrost(state, 1 - State.frost(state));
+                    return State.afterFrost(state, 1 - State.frostIn(state));
                 default:
                     return State.isFast(state, i) ? hauled(state, i, 1 + number / 64 % 4) : state;
             }
