@@ -10,7 +10,7 @@ import java.util.TreeSet;
  * alone: as slow and as literal as can be, with lists, sets and copies, and without LawRigging's ways.
  */
 public final class ModelTest {
-    private static final int RUNS = 1500;
+    private static final int RUNS = 4000;
     private static final int CALLS = 500;
     private static int wrong = 0;
 
@@ -150,14 +150,14 @@ final class Caller {
         for (int i = 0; i < ropes; i++) {
             int strength = 1 + random.nextInt(9);
             text.append("rspntw".charAt(random.nextInt(6))).append(strength).append(random.nextInt(6));
-            text.append(random.nextInt(2) == 0 ? 0 : random.nextInt(strength + 1));
+            text.append(random.nextInt(3) == 0 ? 0 : random.nextInt(strength + 1));
             blanks(text);
         }
         int acts = 1 + random.nextInt(4);
         for (int a = 0; a < acts; a++) {
             text.append('a');
-            set(text);
-            set(text);
+            set(text, 64);
+            set(text, random.nextInt(2) == 0 ? 1 : 64);
             blanks(text);
         }
         if (random.nextInt(4) == 0) {
@@ -184,8 +184,8 @@ final class Caller {
         }
     }
 
-    private void set(StringBuilder text) {
-        int set = random.nextInt(random.nextInt(12) == 0 ? 100 : 64);
+    private void set(StringBuilder text, int bound) {
+        int set = random.nextInt(random.nextInt(25) == 0 ? 100 : bound);
         if (random.nextInt(3) != 0) {
             set &= random.nextInt(64);
         }

@@ -201,6 +201,8 @@ public final class PromisesTest {
         LawRigging x = new LawRigging();
         fill(x, 0, 1, 2, 5);
         dueTold("mean", x, x.mean(0), 2);
+        fill(x, 0, 7);
+        dueTold("mean of one", x, x.mean(0), 7);
         fill(x, 0, -3, -4);
         dueTold("mean below", x, x.mean(0), -3);
         fill(x, 0, MOST_INT, MOST_INT, MOST_INT);
@@ -323,6 +325,8 @@ public final class PromisesTest {
         due("frost", x.count(3), 1);
         x.slack(0);
         x.keep(1);
+        x.keep(0);
+        x.keep(2);
         x.cut(0);
         write(x, 1, "h0r512n101a0000a0000");
         due("anew", x.court(1), 2);
@@ -335,7 +339,9 @@ public final class PromisesTest {
         due("parted", x.count(6), 0);
         due("strains", x.count(7), 3);
         due("kept", x.count(12), 0);
-        dueFinding("kept gone", x, x.on(1), 1);
+        for (int k = 0; k < 3; k++) {
+            dueFinding("kept gone", x, x.on(k), 1);
+        }
         x.haul(0, 1);
         write(x, 2, "h0r512n102a0000");
         due("a fault", x.court(2), STATE);
@@ -613,6 +619,7 @@ public final class PromisesTest {
         due("full", x.lots(1, 5), FULL);
         due("full, bad", x.lots(0, 5), BAD);
         due("keep full", x.keep(0), 40);
+        long whenKept = x.digest();
         due("undo", x.undo(38), 2);
         due("lots", x.lots(3, 5), FULL);
         x.haul(0, 1);
@@ -624,6 +631,7 @@ public final class PromisesTest {
         due("slack", x.slack(0), FULL);
         promise = 22;
         due("on full", x.on(0), 40);
+        due("as it was kept", x.digest(), whenKept);
         due("undo all", x.undo(0), 40);
     }
 
@@ -686,6 +694,8 @@ public final class PromisesTest {
         due("by n 9, and 1 in frost", x.parts(0), 9);
         due("by n 10", x.parts(1), 10);
         due("which", x.asked(), 1);
+        x = courtBy("h0s101a0000");
+        due("by n 1", x.parts(0), 1);
     }
 
     private static void lawfulActs() {
@@ -773,6 +783,9 @@ public final class PromisesTest {
         x = courtBy("h0r901r901a0300");
         due("of as few", x.fall(), 1);
         due("the least number", x.asked(), 1);
+        x = courtBy("h0r901r901r901a0500a0600");
+        due("one of a greater number", x.fall(), 1);
+        due("sooner than two of a lesser one", x.asked(), 4);
         x = courtBy("h0r901r901a0100a0201");
         due("fall", x.fall(), 2);
         due("not by one", x.asked(), 3);
@@ -858,6 +871,11 @@ public final class PromisesTest {
         due("test 6", x.test(6), BAD);
         fill(x, 5, 2, 1);
         due("a rope, a running one", x.test(5), 3);
+        fill(x, 5, 0, 0, 2, 1, 4, 2);
+        due("three pairs", x.kinds(5), 1);
+        due("three pairs", x.who(5), 1);
+        fill(x, 5, 4, 2, 0, 0, 2, 3);
+        due("the last of three pairs", x.kinds(5), 0);
         wrongPairs();
     }
 
@@ -918,6 +936,10 @@ public final class PromisesTest {
         dueTold("three part it", x, x.duel(3), 1);
         x.frost(1);
         dueTold("in frost two part it", x, x.duel(2), 1);
+        x = courtBy("h0p311p321s101a0000");
+        dueTold("the one who hauls last would have more", x, x.duel(1), -1);
+        x = courtBy("h0p910r111r121p920a0000");
+        dueTold("each parts one of the other's", x, x.duel(1), 0);
         due("n -1", x.duel(-1), BAD);
         due("n 4", x.duel(4), BAD);
         due("no ropes", new LawRigging().duel(1), STATE);
@@ -1025,6 +1047,8 @@ public final class PromisesTest {
         due("4: haul by 4", x.lots(1, seedOf(4 * 8 + 3 * 64)), 1);
         due("by 4", x.count(7), 4);
         due("deeds", x.count(2), 12);
+        due("0: haul by 1", x.lots(1, seedOf(100 * 64)), 1);
+        due("by 1", x.count(7), 5);
     }
 
     private static void whatIsTold() {
