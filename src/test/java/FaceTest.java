@@ -74,12 +74,15 @@ public final class FaceTest {
             must(method.getParameterCount() <= 7, method + " takes at most seven");
         }
         must(there.equals(new TreeSet<>(Arrays.asList(METHODS))), "the methods are those of the document: " + there);
+        int fields = 0;
         for (Field field : law.getDeclaredFields()) {
+            fields += Modifier.isStatic(field.getModifiers()) ? 0 : 1;
             boolean constant = CONSTANTS.contains(field.getName());
             must(constant == Modifier.isPublic(field.getModifiers()), field + " is public if a constant told");
             must(constant || Modifier.isPrivate(field.getModifiers()), field + " is private");
             staticIsFinal(field);
         }
+        must(fields <= 20, "some twenty fields, there are " + fields);
     }
 
     private static void innerClass(Class<?> inner) {
@@ -132,7 +135,10 @@ public final class FaceTest {
         while (method.find()) {
             methods++;
             int lines = method.group().split("\n").length;
-            must(lines <= MOST_LINES, "a short method of " + lines + " lines: " + method.group().split("\n")[0]);
+            String head = method.group().split("\n")[0].trim();
+            must(lines <= MOST_LINES, "a short method of " + lines + " lines: " + head);
+            boolean isConstructor = head.matches("(public )?[A-Z]\\w*\\(.*");
+            must(isConstructor || !method.group().matches("(?s).*\\bnew\\b.*"), "no call makes an object: " + head);
         }
         must(methods > METHODS.length, "methods are found in the source: " + methods);
     }

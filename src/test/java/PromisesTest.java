@@ -237,6 +237,11 @@ public final class PromisesTest {
         due("put", x.put(0, 0, -129), 872);
         due("put", x.put(0, 0, 256 + 65), 1127);
         due("put", x.put(0, 0, 0), 1065);
+        due("put at a place", x.put(0, 1, 7), 1032);
+        due("put at another", x.put(0, 2, 8), 1032);
+        due("put, what that place was", x.put(0, 1, 9), 1007);
+        due("put, what the other was", x.put(0, 2, 9), 1008);
+        due("put, what the first was", x.put(0, 0, 9), 1000);
         due("put -1", x.put(-1, 0, 0), BAD);
         due("put 4", x.put(4, 0, 0), BAD);
         dueFinding("put missing", x, x.put(1, 0, 0), 1);
